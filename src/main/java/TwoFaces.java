@@ -455,7 +455,7 @@ public final class TwoFaces {
         private boolean withRuleSigns = false;
         private int readTo = 0;
         private int count = 0;
-        private int at = 0;
+        private int at = NONE;
         int token = END;
         int number = 0;
         long name = 0;
@@ -483,8 +483,8 @@ public final class TwoFaces {
             for (int i = 0; i < MOST_TOKENS && more; i++) {
                 more = readToken();
             }
-            at = 0;
-            lookAt();
+            at = NONE;
+            step();
         }
 
         /** Goes to the next TOKEN, but stays at the end, and at what is no TOKEN. */
@@ -492,10 +492,6 @@ public final class TwoFaces {
             if (at + 1 < count) {
                 at++;
             }
-            lookAt();
-        }
-
-        private void lookAt() {
             if (at >= 0 && at < MOST_TOKENS) {
                 token = tokens[at];
                 name = values[at];
@@ -1600,11 +1596,21 @@ public final class TwoFaces {
             return best;
         }
 
+        private boolean isAble(int a, int b) {
+            for (int share = 0; share <= WHOLE; share++) {
+                makeMix(a, b, share);
+                if (lets(a, apartFromMix(a)) && lets(b, apartFromMix(b))) {
+                    return true;
+                }
+            }
+            return false;
+        }
+
         int countAble() {
             int count = 0;
             for (int a = 0; a < town.faces; a++) {
                 for (int b = a + 1; b < town.faces; b++) {
-                    if (bestShare(a, b) != NONE) {
+                    if (isAble(a, b)) {
                         count++;
                     }
                 }
@@ -1616,7 +1622,7 @@ public final class TwoFaces {
             int left = place;
             for (int a = 0; a < town.faces; a++) {
                 for (int b = a + 1; b < town.faces; b++) {
-                    if (bestShare(a, b) != NONE) {
+                    if (isAble(a, b)) {
                         if (left == 0) {
                             return 100 * a + b;
                         }

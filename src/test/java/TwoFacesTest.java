@@ -153,6 +153,11 @@ public final class TwoFacesTest {
         due("near", x.about(8), 7);
         x.feed(1, 2, 3, 4, 5);
         due("end 0", x.end(0), 0);
+        // What was cut off is not looked at: "near 7" of "near 7abc".
+        put(x, "near 7abc");
+        x.end(6);
+        due("cut behind a number", x.town(), NONE);
+        due("it ends there", x.fault(0) * 100 + x.fault(1), 206);
         due("nothing on it", x.about(5), 0);
     }
 
@@ -177,6 +182,7 @@ public final class TwoFacesTest {
         due("points 5 again", x.about(1), 5);
         due("sixteen faces", town(x, faces(16)), 16);
         due("a name of 8", town(x, "face abcdefgh kind 0 drift 0 row 1 1 1 1 1;"), 1);
+        due("all letters", town(x, "face abyz kind 0 drift 0 row 1 1 1 1 1;face zzzzzzzz kind 0 drift 0 row 1 1 1 1 1;knows abyz zzzzzzzz;"), 2);
         due("names that begin alike", town(x, "points 3;face a kind 0 drift 0 row 1 1 1;face aa kind 0 drift 0 row 1 1 1;face fac kind 0 drift 0 row 1 1 1;face facee kind 0 drift 0 row 1 1 1;"), 4);
     }
 
@@ -290,6 +296,13 @@ public final class TwoFacesTest {
         due("no bar", x.passes(0, 1, 0, 0), 1);
         due("a town without printers", town(x, "points 3;face a kind 0 drift 0 row 19 20 30;face b kind 1 drift 5 row 19 20 50;"), 2);
         due("no blur", x.mix(0, 1, 5, 1, 0), 19);
+        town(x, "printer 0 blurs 9 costs 99;");
+        due("a town without printers again", town(x, "points 3;face a kind 0 drift 0 row 19 20 30;face b kind 1 drift 5 row 19 20 50;"), 2);
+        due("no blur of 0", x.mix(0, 1, 5, 0, 0), 19);
+        rules(x, "sign s when 1;");
+        x.paper(0, 1, 5, 0);
+        x.paper(0, 1, 5, 30);
+        due("printers that are not told cost nothing", x.looks(0, 0, 7) * 10 + x.looks(0, 1, 7), 92);
         due("nobody knows", x.between(0, 1), NONE);
     }
 
@@ -363,6 +376,14 @@ public final class TwoFacesTest {
         rulesFault("bar 1 or or;", 2, 9);
         rulesFault("bar not;", 2, 7);
         rulesFault("bar 1 = not 1;", 2, 8);
+        rulesFault("sign s when 1 or at 9;", 4, 20);
+        rulesFault("sign s when 1 and at 9;", 4, 21);
+        rulesFault("sign s when 1 < at 9;", 4, 19);
+        rulesFault("sign s when 1 + at 9;", 4, 19);
+        rulesFault("sign s when 1 * at 9;", 4, 19);
+        rulesFault("sign s when not at 9;", 4, 19);
+        rulesFault("sign s when (at 9;", 4, 16);
+        rulesFault("sign s when at 2a;", 1, 15);
         String six = "";
         for (int i = 0; i < 6; i++) {
             six += "sign " + (char) ('a' + i) + " when 1;";
@@ -390,6 +411,7 @@ public final class TwoFacesTest {
         rulesFault("bar (1" + times("+1", 38) + ")+1;", 2, 84);
         rulesFault("bar 1" + times("+1", 38) + ";sign s when 1;sign t when 1;", 2, 108);
         due("7 deep", rules(x, "bar " + times("(", 7) + "1" + times(")", 7) + ";"), 1);
+        due("7 deep in a sign", rules(x, "sign s when " + times("(", 7) + "1" + times(")", 7) + ";"), 1);
         due("7 nots", rules(x, "bar " + times("not ", 7) + "far < 5;"), 1);
         due("7 both ways", rules(x, "bar not (not (not (not far)));"), 1);
         due("beside one another 7 deep", rules(x, "bar " + times("(", 6) + "(1)+(2)*(3)" + times(")", 6) + ";"), 1);
@@ -542,7 +564,7 @@ public final class TwoFacesTest {
     }
 
     private static void mixes() {
-        TwoFaces x = with("points 3;face a kind 0 drift 9 row 10 99 35;face b kind 1 drift 5 row 25 0 52;printer 1 blurs 9 costs 0;printer 2 blurs 6 costs 0;");
+        TwoFaces x = with("points 3;face a kind 0 drift 9 row 10 99 35;face b kind 1 drift 5 row 25 0 52;printer 1 blurs 9 costs 0;printer 2 blurs 6 costs 0;printer 0 blurs 1 costs 0;");
         due("share 5", x.mix(0, 1, 5, -1, 0), 17);
         due("share 3", x.mix(0, 1, 3, -1, 0), 20);
         due("share 3, 1", x.mix(0, 1, 3, -1, 1), 29);
@@ -550,7 +572,7 @@ public final class TwoFacesTest {
         due("share 0", x.mix(0, 1, 0, -1, 2), 52);
         due("share 10", x.mix(0, 1, 10, -1, 2), 35);
         due("the other way", x.mix(1, 0, 3, -1, 0), 14);
-        due("printed by 0", x.mix(0, 1, 3, 0, 1), 29);
+        due("printed by 0", x.mix(0, 1, 3, 0, 1), 28);
         due("printed by 1", x.mix(0, 1, 3, 1, 1), 20);
         due("printed by 2", x.mix(0, 1, 3, 2, 1), 28);
         due("printed by 3", x.mix(0, 1, 3, 3, 1), 29);
@@ -583,6 +605,16 @@ public final class TwoFacesTest {
         due("no s lets both", y.able(0, 1, 0, 0), NONE);
         rules(y, "bar kind + 1 > far * 0 and (far = 0 or far = 5);");
         due("only the ends", y.able(0, 1, 0, 0), 0);
+        due("a pair by s 0", y.pairs(0, 0), 1);
+        y = with("points 3;face a kind 0 drift 0 row 0 0 0;face b kind 1 drift 0 row 50 0 0;", "bar far = 50 * kind;");
+        due("s 10 only", y.able(0, 1, 0, 0), 10);
+        due("a pair by s 10", y.pairs(0, 0), 1);
+        due("which", y.pair(0, 0, 0), 1);
+        y = with("points 3;face a kind 0 drift 0 row 0 0 0;face b kind 1 drift 0 row 50 0 0;", "bar far = 50 - 50 * kind;");
+        due("s 0 only", y.able(0, 1, 0, 0), 0);
+        due("a pair by s 0 only", y.pairs(0, 0), 1);
+        rules(y, "bar 1;");
+        due("able with none", y.able(-1, 1, 0, 0) + y.able(0, 2, 0, 0), 2 * NONE);
         TwoFaces z = with("points 3;face d kind 0 drift 0 row 0 0 0;face e kind 0 drift 0 row 99 0 0;face f kind 0 drift 0 row 10 0 0;face g kind 0 drift 0 row 90 0 0;");
         due("pairs", z.pairs(0, 0), 2);
         due("the first", z.pair(0, 0, 0), 2);
@@ -636,6 +668,8 @@ public final class TwoFacesTest {
         due("the first year", x.until(0, 0), 0);
         rules(x, "bar not years = 7 and not years = 9;");
         due("the first of them", x.until(0, 0), 7);
+        rules(x, "bar 0;");
+        due("none of them, held or not", x.until(3, 0) + x.until(-1, 0) + x.until(0, 10) + x.until(0, -1), 4 * NONE);
         rules(x, "bar light - 3 or years < 5;");
         due("by its light", x.until(0, 3), 5);
         due("by another", x.until(0, 4), NONE);
@@ -732,6 +766,9 @@ public final class TwoFacesTest {
         due("no such paper", x.behind(1, 0, 0) + x.behind(-1, 0, 0), 2 * NONE);
         x.paper(2, 0, 9, 120);
         due("the one who hands it in is the first", x.behind(1, 0, 0) * 10 + x.behind(1, 1, 0), 9);
+        x.paper(0, 2, 1, 121);
+        due("by share 1", x.behind(2, 0, 0) * 10 + x.behind(2, 1, 0), 21);
+        due("by share 1 there, too", x.behind(2, 2, 0), 0);
         x.untell(0);
         due("does not count", x.behind(0, 0, 0), NONE);
         TwoFaces one = with("points 3;face a kind 0 drift 0 row 9 9 9;");
@@ -786,6 +823,11 @@ public final class TwoFacesTest {
         x = with("points 3;face a kind 0 drift 9 row 0 0 0;face b kind 0 drift 0 row 10 0 0;near 5;");
         x.paper(0, 1, 5, 6000);
         due("own of year 0", x.behind(0, 3, 0), 0);
+        // The third one is the first face.
+        x = with("points 3;face d kind 0 drift 0 row 30 0 0;face a kind 0 drift 0 row 0 0 0;face b kind 0 drift 0 row 40 0 0;near 1;");
+        x.paper(1, 2, 5, 0);
+        due("a third one ahead is too near", x.behind(0, 3, 0), 0);
+        due("it is not the one", x.behind(0, 0, 0), 2);
     }
 
     private static void ringsHang() {
@@ -831,6 +873,7 @@ public final class TwoFacesTest {
         due("three years apart", y.ring(0, 0), 1);
         y.paper(1, 0, 5, 200);
         due("two years apart", y.ring(0, 0), 4);
+        due("the first part is the greatest", y.rings(2, 0) * 10 + y.rings(1, 0), 4);
     }
 
     private static void knowing() {
@@ -843,6 +886,7 @@ public final class TwoFacesTest {
         due("no way", x.between(0, 5), NONE);
         due("alone", x.between(7, 0), NONE);
         due("alone itself", x.between(7, 7), 0);
+        due("none such, either", x.between(32, 0) + x.between(0, 32) + x.between(33, 1), 3 * NONE);
         due("none such", x.between(8, 0) + x.between(0, 8) + x.between(-1, 0) + x.between(0, -1), 4 * NONE);
         StringBuilder chain = new StringBuilder(faces(16));
         for (int i = 1; i < 16; i++) {
@@ -906,6 +950,15 @@ public final class TwoFacesTest {
         due("best wrong", x.bestBar(-1, 1, 0, 0) + x.bestBar(100, 1, 0, 0) + x.bestBar(1, -1, 0, 0) + x.bestBar(1, 100, 0, 0)
             + x.bestBar(1, 1, 61, 0) + x.bestBar(1, 1, -1, 0) + x.bestBar(1, 1, 0, 10) + x.bestBar(1, 1, 0, -1), 8 * NONE);
         due("no faces", new TwoFaces().cost(800, 99, 99, 60, 9), 0);
+        // By light 2 both are held below 6; a is 2 away from b's picture, b 10 from a's.
+        TwoFaces y = with("points 3;face a kind 0 drift 0 row 10 10 10;face b kind 0 drift 0 row 12 12 10;");
+        due("false from 2 on", y.cost(1, 1, 0, 0, 2) * 10 + y.cost(2, 1, 0, 0, 2), 1);
+        due("both from 10 on", y.cost(9, 1, 0, 0, 2) * 10 + y.cost(10, 1, 0, 0, 2), 12);
+        due("held till 6", y.cost(5, 0, 1, 0, 2) * 10 + y.cost(6, 0, 1, 0, 2), 20);
+        due("two held, one false: let in", y.bestBar(1, 1, 0, 2), 6);
+        due("as dear: the least", y.bestBar(4, 2, 0, 2), 0);
+        due("just less dear", y.bestBar(3, 2, 0, 2), 6);
+        due("just dearer", y.bestBar(5, 2, 0, 2), 0);
     }
 
     private static void fairBars() {
@@ -932,6 +985,12 @@ public final class TwoFacesTest {
         due("false of some", y.fair(67, 10, 0, 4), 6);
         due("wrong", y.fair(-1, 0, 0, 4) + y.fair(101, 0, 0, 4) + y.fair(0, 61, 0, 4) + y.fair(0, -1, 0, 4) + y.fair(0, 0, 10, 4)
             + y.fair(0, 0, -1, 4) + y.fair(0, 0, 0, 5) + y.fair(0, 0, 0, -1), 8 * NONE);
+        TwoFaces z = with("points 3;face a kind 0 drift 0 row 99 99 50;face b kind 0 drift 0 row 99 99 51;");
+        due("one away", z.fair(0, 0, 1, 0), 1);
+        due("both are held below", z.fair(99, 0, 1, 0), 1);
+        due("both may be", z.fair(100, 0, 1, 0), 0);
+        due("kind 0's false ones", z.fair(0, 0, 1, 4), 1);
+        due("false ones by 0", z.fair(100, 0, 0, 4) * 10 + z.fair(100, 0, 1, 4), 1);
         due("no faces", new TwoFaces().fair(0, 0, 0, 4), 0);
         due("no kind", new TwoFaces().fair(0, 0, 0, 0), NONE);
     }
