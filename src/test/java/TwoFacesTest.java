@@ -1,11 +1,7 @@
 /** At least one test for each promise of ../shared/DOC.md: what is ordinary, the edges, and what is wrong. */
-public final class TwoFacesTest {
-    private static final int NONE = TwoFaces.NONE;
+public final class TwoFacesTest extends Checks {
     private static final String THREE = "points 3;face a kind 0 drift 0 row 10 20 30;face b kind 1 drift 5 row 20 20 50;"
         + "face c kind 1 drift 0 row 90 90 90;knows a b;printer 1 blurs 9 costs 4;printer 2 blurs 0 costs 3;near 5;";
-
-    private static int passed = 0;
-    private static int failed = 0;
 
     public static void main(String[] args) {
         newObject();
@@ -38,70 +34,11 @@ public final class TwoFacesTest {
         measureOfKinds();
         boxes();
         abouts();
-        System.out.println(passed + " passed, " + failed + " failed");
-        if (failed != 0) {
-            System.exit(1);
-        }
-    }
-
-    private static void due(String what, int got, int want) {
-        if (got == want) {
-            passed++;
-        } else {
-            failed++;
-            System.out.println("  " + what + " answered " + got + ", due is " + want);
-        }
-    }
-
-    private static void due(String what, boolean got, boolean want) {
-        due(what, got ? 1 : 0, want ? 1 : 0);
-    }
-
-    private static void put(TwoFaces x, String text) {
-        int from = x.about(5);
-        for (int i = 0; i < text.length(); i += 20) {
-            int[] n = new int[5];
-            for (int j = 0; j < 20; j++) {
-                int sign = i + j < text.length() ? text.charAt(i + j) : 0;
-                n[j / 4] = n[j / 4] << 8 | sign & 255;
-            }
-            x.feed(n[0], n[1], n[2], n[3], n[4]);
-        }
-        x.end(from + text.length());
-    }
-
-    private static int town(TwoFaces x, String text) {
-        put(x, text);
-        return x.town();
-    }
-
-    private static int rules(TwoFaces x, String text) {
-        put(x, text);
-        return x.rules();
-    }
-
-    private static TwoFaces with(String town) {
-        TwoFaces x = new TwoFaces();
-        due("town '" + town + "' has a fault", town(x, town) == NONE, false);
-        return x;
-    }
-
-    private static TwoFaces with(String town, String rules) {
-        TwoFaces x = with(town);
-        due("rules '" + rules + "' have a fault", rules(x, rules) == NONE, false);
-        return x;
+        tellAndExit();
     }
 
     private static String times(String text, int n) {
         return text.repeat(n);
-    }
-
-    private static String faces(int n) {
-        StringBuilder text = new StringBuilder();
-        for (int i = 0; i < n; i++) {
-            text.append("face ").append((char) ('a' + i)).append(" kind 0 drift 0 row ").append(i).append(" 0 0 0 0;");
-        }
-        return text.toString();
     }
 
     private static void newObject() {
@@ -184,14 +121,6 @@ public final class TwoFacesTest {
         due("a name of 8", town(x, "face abcdefgh kind 0 drift 0 row 1 1 1 1 1;"), 1);
         due("all letters", town(x, "face abyz kind 0 drift 0 row 1 1 1 1 1;face zzzzzzzz kind 0 drift 0 row 1 1 1 1 1;knows abyz zzzzzzzz;"), 2);
         due("names that begin alike", town(x, "points 3;face a kind 0 drift 0 row 1 1 1;face aa kind 0 drift 0 row 1 1 1;face fac kind 0 drift 0 row 1 1 1;face facee kind 0 drift 0 row 1 1 1;"), 4);
-    }
-
-    private static void townFault(String text, int sort, int place) {
-        TwoFaces x = new TwoFaces();
-        due("town '" + text + "'", town(x, text), NONE);
-        due("sort of the fault in '" + text + "'", x.fault(0), sort);
-        due("its place in '" + text + "'", x.fault(1), place);
-        due("tape behind it", x.about(5), 0);
     }
 
     private static void townFaults() {
@@ -329,14 +258,6 @@ public final class TwoFacesTest {
         due("no fault now", x.fault(0), 0);
         due("no place now", x.fault(1), NONE);
         due("a long one", rules(x, "bar " + times("not ", 7) + times(" ", 700) + "1 ;"), 1);
-    }
-
-    private static void rulesFault(String text, int sort, int place) {
-        TwoFaces x = with(THREE, "bar 1;");
-        due("rules '" + text + "'", rules(x, text), NONE);
-        due("sort of the fault in '" + text + "'", x.fault(0), sort);
-        due("its place in '" + text + "'", x.fault(1), place);
-        due("bar behind it", x.passes(0, 2, 0, 0), 1);
     }
 
     private static void rulesFaults() {
