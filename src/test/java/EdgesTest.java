@@ -4,6 +4,7 @@ public final class EdgesTest extends Checks {
     private static final int GREATEST = Integer.MAX_VALUE;
 
     public static void main(String[] args) {
+        newObject();
         tapeIsFull();
         tapeEnds();
         driftsAreCut();
@@ -63,6 +64,37 @@ public final class EdgesTest extends Checks {
             text.append(face("" + name, row));
         }
         return text.toString();
+    }
+
+    // A new object: An empty TOWN. (what a TOWN leaves untold is as told of an empty one)
+    private static void newObject() {
+        for (int box = 0; box <= 2; box++) {
+            TwoFaces x = new TwoFaces();
+            nones("nothing was kept in box " + box, x.back(box));
+            due("nothing can be", x.image(box), 0);
+            due("nothing is back", x.back(box), 0);
+        }
+        int[] abouts = {0, 5, 0, 0, 0, 0, 0, 0, 20};
+        TwoFaces empty = new TwoFaces();
+        due("an empty town", empty.town(), 0);
+        TwoFaces x = new TwoFaces();
+        for (int what = 0; what < abouts.length; what++) {
+            due("about " + what, x.about(what), abouts[what]);
+            due("about " + what + " of an empty town", empty.about(what), abouts[what]);
+        }
+        nones("another about", x.about(-1), x.about(9));
+        due("without a fault", x.fault(0), 0);
+        nones("ahead of any", x.fault(1));
+        due("nothing to untell", x.untell(0), false);
+        nones("no paper", x.paper(0, 0, 0, 0), x.ring(0, 0), x.behind(0, 0, 0), x.rings(2, 0));
+        due("no rings", x.rings(0, 0) + x.rings(1, 0), 0);
+        due("no looks", x.looks(999, 0, 0) + x.looks(999, 1, 0), 0);
+        due("time goes on", x.later(1000), 1000);
+        due("five measures", rules(x, "sign s when at 4;"), 1);
+        due("one sign", x.about(2), 1);
+        due("not six", rules(x, "sign s when at 5;"), NONE);
+        due("which fault", x.fault(0), 4);
+        due("the sign stays", x.about(2), 1);
     }
 
     // feed: how many there are; NONE, and nothing comes, if there would be more than 1,600

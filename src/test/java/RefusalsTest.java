@@ -38,6 +38,7 @@ public final class RefusalsTest extends Checks {
         boxesKeepEachPaper();
         boxesStandAlone();
         questionsBehindOthers();
+        townsBehindOthers();
         tellAndExit();
     }
 
@@ -103,6 +104,11 @@ public final class RefusalsTest extends Checks {
 
     private static TwoFaces made(String rules) {
         TwoFaces x = new TwoFaces();
+        make(x, rules);
+        return x;
+    }
+
+    private static void make(TwoFaces x, String rules) {
         town(x, TOWN);
         rules(x, rules);
         x.paper(0, 5, 4, 100);
@@ -119,7 +125,6 @@ public final class RefusalsTest extends Checks {
         x.untell(1);
         rules(x, RULES_WITH_FAULT);
         put(x, LEFT_ON_TAPE);
-        return x;
     }
 
     /** All that can be asked of it but the tape and the fault; what changes it stands behind what does not. */
@@ -446,6 +451,37 @@ public final class RefusalsTest extends Checks {
                 x.paper(0, 0, 0, 0);
                 x.later(9);
             }
+        }
+    }
+
+    // The TAPE is the TOWN: nothing but the TIME is left of the one ahead of it, however great that was.
+    private static void townsBehindOthers() {
+        StringBuilder great = new StringBuilder("points 8;");
+        for (char name = 'a'; name <= 'p'; name++) {
+            great.append(face("" + name, name % 4, name % 10, "99 1 98 2 97 3 " + (name - 'a') + " 99"));
+        }
+        great.append("knows a h;knows h b;knows a p;").append(printer(0, 9, 9)).append(printer(2, 8, 9)).append("near 800;");
+        String signs = "bar 0;";
+        for (char name = 'a'; name <= 'f'; name++) {
+            signs += "sign " + name + " when at 7 + at 6 > " + (name - 'a') + ";";
+        }
+        for (String rules : new String[] {RULES, RULES_OF_LIGHT}) {
+            TwoFaces x = with(great.toString(), signs);
+            for (int i = 0; i < 40; i++) {
+                x.paper(i % 16, 15 - i % 16, i % 11, 101 * i);
+            }
+            x.untell(0);
+            x.untell(1);
+            due("forty", x.image(0) + x.image(1) + x.image(2), 120);
+            x.pairs(60, 9);
+            x.cost(9, 1, 1, 60, 9);
+            x.bestBar(1, 1, 60, 9);
+            x.behind(3, 0, 0);
+            x.rings(1, 0);
+            x.looks(999, 0, 0);
+            x.signs(0, 1, 5, 2);
+            make(x, rules);
+            due("as on a new object", state(x), state(made(rules)));
         }
     }
 }

@@ -27,6 +27,8 @@ public final class TextEdgesTest extends Checks {
         firstByItsPlace();
         textsThatEndTooEarly();
         tokensLeftOut();
+        linesTooShortOrTooLong();
+        numbersAreNoNames();
         tokensSpoilt();
         pointsAndRows();
         pointsOnceAheadOfFaces();
@@ -326,6 +328,55 @@ public final class TextEdgesTest extends Checks {
         }
         String last = TOWN.substring(0, TOWN.length() - 1);
         townFault(last, 2, last.length());
+    }
+
+    /** A line that ends by ; too early, and one that goes on behind its last word. */
+    private static void linesTooShortOrTooLong() {
+        String ahead = "points 3;" + face("y", "1 2 3") + face("z", "1 2 3");
+        for (String line : new String[] {"face a kind 0 drift 0 row 10 20 30", "knows z y", "printer 1 blurs 9 costs 4", "near 5"}) {
+            for (int[] token : tokensOf(line)) {
+                String cut = ahead + line.substring(0, token[1]);
+                if (token[1] < line.length()) {
+                    townFault(cut + ";", 2, cut.length());
+                    townFault(cut + " ;" + line + ";", 2, cut.length() + 1);
+                }
+            }
+            for (String more : "0 a z row kind points near face".split(" ")) {
+                townFault(ahead + line + " " + more + ";", 2, (ahead + line).length() + 1);
+            }
+            townFault(ahead + line + ";;", 2, (ahead + line).length() + 1);
+            townStands(ahead + line + ";", line.startsWith("face") ? 3 : 2);
+        }
+        townFault("points;", 2, 6);
+        townFault("points 3 4;", 2, 9);
+        for (String line : new String[] {"sign s when 1 < sum", "bar far + 1 = light"}) {
+            for (int[] token : tokensOf(line)) {
+                String cut = line.substring(0, token[1]);
+                boolean stands = cut.endsWith("1") || cut.endsWith("far") || token[1] == line.length();
+                if (stands) {
+                    rulesStand(cut + ";", 1);
+                } else {
+                    rulesFault(cut + ";", 2, cut.length());
+                }
+            }
+            for (String more : "0 a far sum when not bar sign ( )".split(" ")) {
+                rulesFault(line + " " + more + ";", 2, line.length() + 1);
+            }
+            rulesFault(line + ";;", 2, line.length() + 1);
+        }
+    }
+
+    /** No number is a name, whatever letters it could be kept as. */
+    private static void numbersAreNoNames() {
+        String ahead = "points 3;" + face("a", "1 2 3") + face("b", "1 2 3") + face("aa", "1 2 3") + face("z", "1 2 3");
+        for (int i = 0; i <= 9999; i += i < 1100 ? 1 : 271) {
+            townFault(ahead + "knows " + i + " b;", 2, ahead.length() + 6);
+            townFault(ahead + "knows b " + i + ";", 2, ahead.length() + 8);
+        }
+        for (int i = 0; i <= 40; i++) {
+            townFault("face " + i + " kind", 2, 5);
+            rulesFault("sign " + i + " when 1;", 2, 5);
+        }
     }
 
     // FAULTS: 1 no TOKEN

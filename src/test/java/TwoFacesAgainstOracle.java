@@ -105,7 +105,7 @@ public final class TwoFacesAgainstOracle {
     }
 
     private void giveRules() {
-        feedText(spoilt(rulesText()));
+        feedText(below(20) == 0 ? rulesText() + " ".repeat(700 + below(500)) : spoilt(rulesText()));
         int got = x.rules();
         check("rules()", got, o.rules());
         checkFault();
