@@ -35,6 +35,7 @@ public final class LanguageTest {
         }
         wordsOf(withoutTexts(source));
         methodLengths(source);
+        madeByCalls(withoutTexts(source));
         System.out.println(passed + " passed, " + failed + " failed");
         if (failed != 0) {
             System.exit(1);
@@ -138,5 +139,20 @@ public final class LanguageTest {
                 due("some sixty lines: " + lines[i].trim(), end - i < 60);
             }
         }
+    }
+
+    /** Rows are made in constructors; a call makes no more than the reader of its text, so that the room holds all calls of a run. */
+    private static void madeByCalls(String code) {
+        int readers = 0;
+        for (String line : code.split("\n")) {
+            if (Pattern.compile("\\bnew\\b").matcher(line).find()) {
+                boolean isField = line.matches(" {4}( {4})?private final [\\w\\[\\]]+ \\w+ = new [^;]*;");
+                boolean isBox = line.trim().equals("boxes[i] = new Papers();");
+                boolean isReader = line.contains("new TownText(") || line.contains("new RulesText(");
+                readers += isReader ? 1 : 0;
+                due("made in a constructor: " + line.trim(), isField || isBox || isReader);
+            }
+        }
+        due("two readers", readers == 2);
     }
 }
