@@ -50,6 +50,7 @@ public final class EdgesTest extends Checks {
         measureToTheFarthest();
         timeToTheLast();
         boxesKeep();
+        boxesKeepNothingElse();
         tellAndExit();
     }
 
@@ -1179,5 +1180,25 @@ public final class EdgesTest extends Checks {
         due("none kept", x.image(1), 0);
         due("none back", x.back(1), 0);
         due("the time stays", x.about(4), 10);
+    }
+
+    // PAPERS, and the TIME, are kept: the TAPE, the RULES and the latest FAULT are not.
+    private static void boxesKeepNothingElse() {
+        TwoFaces x = with(far(3), "bar 0;sign s when 1;");
+        x.paper(0, 1, 5, 0);
+        put(x, "near 7;");
+        due("one", x.image(0), 1);
+        x.end(0);
+        due("other rules", rules(x, "bar 1;sign s when 0;sign t when 1;"), 3);
+        due("rules with a fault", rules(x, "bar"), NONE);
+        put(x, "near");
+        due("back", x.back(0), 1);
+        due("the rules are the latest", x.about(2) * 10 + x.about(6), 23);
+        due("the bar, too", x.passes(0, 0, 0, 0), 1);
+        due("papers are looked at by them", x.looks(0, 1, 0) * 10 + x.signs(0, 1, 5, -1), 12);
+        due("the fault stays", x.fault(0) * 100 + x.fault(1), 203);
+        due("the tape stays", x.about(5), 4);
+        due("it is the latest, too", x.town(), NONE);
+        due("where it ends", x.fault(1), 4);
     }
 }
